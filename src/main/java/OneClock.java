@@ -660,24 +660,20 @@ public final class OneClock {
                     fail(ROOM);
                     return;
                 }
-                readIf();
+                pass(IF);
+                readSum(1);
+                pass('<');
+                readSum(1);
+                pass(THEN);
+                int jump = plan.code.add(Code.UNLESS_LESS, 0);
+                readSum(1);
+                pass(ELSE);
+                plan.code.add(Code.ANSWER, 0);
+                plan.code.aimAtEnd(jump);
             }
             readSum(1);
             plan.code.add(Code.ANSWER, 0);
             pass(';');
-        }
-
-        private void readIf() {
-            pass(IF);
-            readSum(1);
-            pass('<');
-            readSum(1);
-            pass(THEN);
-            int jump = plan.code.add(Code.UNLESS_LESS, 0);
-            readSum(1);
-            pass(ELSE);
-            plan.code.add(Code.ANSWER, 0);
-            plan.code.aimAtEnd(jump);
         }
 
         /** Reads an E; nested is the number that a ( opened in it would have. */
@@ -1247,16 +1243,20 @@ public final class OneClock {
 
         private boolean areOpen(int bits) {
             for (int b = 0; b < plan.boards; b++) {
-                if ((bits >> b & 1) == 1 && !now.isOpen(b)) {
+                if (isIn(b, bits) && !now.isOpen(b)) {
                     return false;
                 }
             }
             return true;
         }
 
+        private boolean isIn(int board, int bits) {
+            return (bits >> board & 1) == 1;
+        }
+
         private void letGoAll(int bits) {
             for (int b = 0; b < plan.boards; b++) {
-                if ((bits >> b & 1) == 1) {
+                if (isIn(b, bits)) {
                     trial.letGo(b);
                 }
             }
@@ -1384,9 +1384,10 @@ public final class OneClock {
                 return 0;
             }
             trial.setOut();
-            trial.spot = Integer.numberOfTrailingZeros(bits);
-            for (int b = 0; b < plan.boards; b++) {
-                if ((bits >> b & 1) == 0) {
+            for (int b = plan.boards - 1; b >= 0; b--) {
+                if (isIn(b, bits)) {
+                    trial.spot = b;
+                } else {
                     trial.ended[b] = NOT_HIS;
                 }
             }

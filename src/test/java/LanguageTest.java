@@ -56,8 +56,7 @@ public final class LanguageTest {
         }
         must(!code.contains("->") && !code.contains("::") && !code.contains("Exact("), "no lambda, no ..Exact");
         Matcher library = Pattern.compile("\\b([A-Z][a-z]\\w*)\\.(\\w+)\\(").matcher(code);
-        Set<String> allowed = Set.of("Math.max", "Math.min", "Math.abs", "System.arraycopy", "Integer.bitCount",
-            "Integer.numberOfTrailingZeros");
+        Set<String> allowed = Set.of("Math.max", "Math.min", "Math.abs", "System.arraycopy", "Integer.bitCount");
         while (library.find()) {
             must(allowed.contains(library.group(1) + "." + library.group(2)), "library has " + library.group());
         }

@@ -344,6 +344,8 @@ public final class PromisesTest {
         due("the last else", worth("if 3<2 then 3 else if 3<2 then 5 else if 3<2 then 6 else if 2<1 then 7 else 4"), 4);
         due("compares as it wraps", worth("if (2147*1000*1000+483*1000+647)+1<0 then 3 else 4"), 3);
         due("deep", worth("((((((1+2)*2)-3)*4)+5)*2)"), 34);
+        due("as many waiting parts as can be",
+            worth("if 1<1+1*(1+1*(1+1*(1+1*(1+1*(1+1*(1+1*1)))))) then 3 else 4"), 3);
         due("waiting parts", worth("1+2*(1+2*(1+2*(1+2*(1+2*(1+2*3)))))"), 255);
     }
 
@@ -667,6 +669,11 @@ public final class PromisesTest {
         due("the flag is less dear", flag.best(1), -5);
         due("by b", flag.bestAt(1, 0), 10);
         due("all is over by the flag", flag.bestAt(2, 1), -2);
+        OneClock asked = Tapes.reading("board a 1 0;board b 1 0;worth b=4;");
+        due("asked at first", asked.bestAt(1, 0), 10);
+        asked.move(1, 0);
+        due("asked again", asked.bestAt(1, 0), 0);
+        due("asked for more", asked.bestAt(2, 1), -2);
         OneClock dear = Tapes.reading("board a 4 0;board b 4 0;thinks 0;worth a=if move<3 then 0-50 else 999;worth b=1;step 0;answer a=0;answer b=0;");
         due("it pays late", dear.best(4), 849);
         due("its last one", dear.bestAt(4, 3), 0);
@@ -918,6 +925,12 @@ public final class PromisesTest {
         due("of the new text", x.seats(0, 0), 1);
         due("of the new text at", x.seatAt(0, 0, 0), 0);
         due("one seat", x.seatAt(0, 0, 1), -1);
+        OneClock asked = Tapes.reading("board a 1 0;board b 1 0;step 5;thinks 60 0 1;worth b=if think<1 then 0 else 70-time;worth a=think;");
+        due("asked at first", asked.seatAt(0, 0, 0), 1);
+        due("by another think", asked.seatAt(0, 1, 0), 0);
+        due("won by a rule", asked.seats(0, 0), 70);
+        due("won by another one", asked.seats(1, 2), 65);
+        due("won by another one, too", asked.seats(2, 1), 0);
     }
 
     /** Promise 25. */

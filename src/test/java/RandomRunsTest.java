@@ -81,6 +81,9 @@ public final class RandomRunsTest {
     private void readOne(boolean few) {
         String text = texts.joined(oneIn(3) ? texts.wrong() : texts.right(few));
         byte[] bytes = Tapes.bytes(text);
+        for (int n = 0; bytes.length > 0 && oneIn(15) && n < 3; n++) {
+            bytes[random.nextInt(bytes.length)] = (byte) random.nextInt(256);
+        }
         for (int from = 0; from < bytes.length; from += 20) {
             int[] five = Tapes.twenty(bytes, from);
             same("feed", clock.feed(five[0], five[1], five[2], five[3], five[4]), model.feed(five));
@@ -179,7 +182,9 @@ public final class RandomRunsTest {
         same("begins " + b, clock.begins(b), model.begins(b));
         int d = number(6);
         if (model.rows(Math.max(1, Math.min(d, 4))) < 3000) {
-            same("best " + d, clock.best(d), model.best(d));
+            if (oneIn(2)) {
+                same("best " + d, clock.best(d), model.best(d));
+            }
             int i = number(5);
             same("bestAt " + d + " " + i, clock.bestAt(d, i), model.bestAt(d, i));
         }
@@ -190,7 +195,9 @@ public final class RandomRunsTest {
         same("shared " + args + " " + what, clock.shared(rule, i, what), model.shared(rule, i, what));
         if (model.count(0) <= 4 || model.allMoves() < 12 && oneIn(5)) {
             int k = number(7);
-            same("seats " + args, clock.seats(rule, i), model.seats(rule, i));
+            if (oneIn(2)) {
+                same("seats " + args, clock.seats(rule, i), model.seats(rule, i));
+            }
             same("seatAt " + args + " " + k, clock.seatAt(rule, i, k), model.seatAt(rule, i, k));
         }
     }
