@@ -1,34 +1,5 @@
 /** Each promise of the document by runs whose answers were worked out by hand. */
-public final class PromisesTest {
-    private static final int BAD = -1000000;
-    private static int wrong = 0;
-    private static int checks = 0;
-
-    private static void due(String what, int got, int want) {
-        checks++;
-        if (got != want) {
-            wrong++;
-            System.out.println(what + " answered " + got + ", due is " + want);
-        }
-    }
-
-    private static void due(String what, boolean got, boolean want) {
-        due(what, got ? 1 : 0, want ? 1 : 0);
-    }
-
-    /** Reads a text on a new object and looks at the fault and its place. */
-    private static void fault(String text, int number, int place) {
-        OneClock x = new OneClock();
-        Tapes.feed(x, text);
-        due("read of '" + text + "'", x.read(), number);
-        due("place of '" + text + "'", x.place(), place);
-        due("tape behind '" + text + "'", x.count(10), 0);
-    }
-
-    private static String times(int n, String text) {
-        return text.repeat(n);
-    }
-
+public final class PromisesTest extends Checks {
     public static void main(String[] args) {
         newObject();
         tape();
@@ -64,10 +35,7 @@ public final class PromisesTest {
         fitting();
         holding();
         counts();
-        System.out.println(checks + " answers looked at, " + wrong + " wrong");
-        if (wrong != 0) {
-            System.exit(1);
-        }
+        tellAll();
     }
 
     /** Promise 1. */
@@ -318,12 +286,6 @@ public final class PromisesTest {
         due("the shorter way", six.board(4, 4), 2);
     }
 
-    /** What a law of one board is worth at its first move. */
-    private static int worth(String law) {
-        OneClock x = Tapes.reading("board a 5 0;worth a=" + law + ";thinks 3;");
-        due("move by " + law, x.move(0, 0), 0);
-        return x.sum();
-    }
 
     private static void laws() {
         due("rank", worth("1+2*3"), 7);
