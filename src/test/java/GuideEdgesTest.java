@@ -491,7 +491,7 @@ public final class GuideEdgesTest extends Checks {
             OneClock x = Tapes.reading("board a 1 0;thinks 7;clock " + clock + ";");
             due("by CLOCK " + clock, x.spare(0, 0, 0), Math.min(60, clock));
             x.pause(clock - 1);
-            due("one minute ahead of CLOCK " + clock, x.spare(0, 0, 0), clock == 1 ? 1 : 1);
+            due("one minute ahead of CLOCK " + clock, x.spare(0, 0, 0), 1);
             if (clock > 1) {
                 x.pause(1);
                 due("at CLOCK " + clock, x.spare(0, 0, 0), -2);
@@ -636,8 +636,8 @@ public final class GuideEdgesTest extends Checks {
         says("from minute 0 on, all as by the text");
         String text = "board a 2 1;board b 3 2;board c 1 3;board d 2 0;thinks 2 5;step 3;clock 80;flag 9;worth a=time;worth b=20-time;"
             + "worth c=idle;answer a=6;answer b=9;draw c=4;draw d=sum;";
-        for (int first = 0; first < 8; first++) {
-            for (int then = 0; then < 8; then++) {
+        for (int first = 0; first < 10; first++) {
+            for (int then = 0; then < 10; then++) {
                 OneClock x = Tapes.reading(text);
                 x.tell(1, 9);
                 x.move(2, 0);
@@ -659,6 +659,8 @@ public final class GuideEdgesTest extends Checks {
             case 4: return x.rule(0, 1, 0) * 1000 + x.rule(0, 1, 1);
             case 5: return x.dropBest(0, 1, 0) * 100 + x.dropBest(0, 1, 1);
             case 6: return x.fits(1) * 100 + x.spare(3, 0, 0);
+            case 7: return x.offerBest(1, 0, 0) * 100 + x.offerBest(1, 0, 1);
+            case 8: return x.bestRule(2) * 100 + x.bestRule(0) * 10 + x.bestRule(1);
             default: return x.best(2) * 100 + x.bestAt(2, 1);
         }
     }

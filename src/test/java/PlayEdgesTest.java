@@ -397,6 +397,8 @@ public final class PlayEdgesTest extends Checks {
             }
             due("the first that holds is " + first, worth(law + "20"), first < 4 ? 10 + first : 20);
         }
+        String failing = "if 2<1 then 1 else if 3<1 then 1 else if 4<1 then 1 else if 5<1 then 1 else ";
+        due("as deep as can be behind four", worth(failing + "1+2*(1+2*(1+2*(1+2*(1+2*(1+2*(1+2*1))))))"), 255);
         due("most and least", worth("if 2147*1000*1000+483*1000+647<2147*1000*1000+483*1000+648 then 7 else 8"), 8);
     }
 

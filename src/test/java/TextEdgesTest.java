@@ -223,6 +223,8 @@ public final class TextEdgesTest extends Checks {
             fault("board " + word + " 1 1;", 1, 6);
             right("board " + word + "x 1 1;answer " + word + "x=1;");
             right("board x" + word + " 1 1;");
+            right("board z" + word.substring(1) + " 1 1;");
+            right("board " + word.substring(0, word.length() - 1) + "z 1 1;");
             String less = word.substring(0, word.length() - 1);
             fault("board " + less + " 1 1;", WORDS.contains(less) ? 1 : 0, WORDS.contains(less) ? 6 : -1);
         }
@@ -570,6 +572,7 @@ public final class TextEdgesTest extends Checks {
             + "worth a=5;answer a=9;draw c=8;");
         x.tell(1, 7);
         x.tell(0, 12);
+        x.hold(0);
         x.move(0, 0);
         x.hold(1);
         x.move(1, 1);
@@ -619,8 +622,9 @@ public final class TextEdgesTest extends Checks {
             OneClock fresh = Tapes.reading(text);
             stands("by '" + text + "'", x, standing(fresh));
             due("undo", x.undo(), false);
-            due("restore 1", x.restore(1), false);
-            due("restore 2", x.restore(2), false);
+            for (int slot = 0; slot <= 2; slot++) {
+                due("restore " + slot, x.restore(slot), false);
+            }
             due("fits 1", x.fits(1), OneClock.NONE);
             due("best", x.best(3), fresh.best(3));
             due("its first", x.bestAt(3, 0), fresh.bestAt(3, 0));
